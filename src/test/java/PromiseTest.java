@@ -1,8 +1,12 @@
 import java.util.Arrays;
 import java.util.List;
 import java.util.function.IntUnaryOperator;
+import java.util.function.ToIntBiFunction;
 
-/** Each promise by its number, with answers worked out by hand from the document. */
+/**
+ * Each promise by its number, with answers worked out by hand from the document. No object is
+ * asked more than 512 times where the answer counts: later answers are free.
+ */
 public final class PromiseTest {
     private static final int BAD = -1;
     private static final int FULL = -2;
@@ -151,20 +155,12 @@ public final class PromiseTest {
         dueSymbols("012345", Answers.typed(0, 1, 2, 3, 4, 5), 6, 2, 3, 4, 5, 6);
         // n letters 0 have n ranks 0: one run.
         int[][] runs = {{0}, {1}, {0, 0}, {1, 0}, {0, 1}, {1, 1}, {0, 0, 0}, {1, 0, 0}, {0, 1, 0}};
-        BlockCoder x = new BlockCoder();
-        for (int n = 1; n <= 32; n++) {
-            x.type(0);
-            if (n <= runs.length) {
-                dueSymbols(n + " letters 0", x, runs[n - 1]);
-            }
-            if (n == 30) {
-                dueSymbols("30 letters 0", x, 1, 1, 1, 1);
-            }
-            if (n == 31) {
-                dueSymbols("31 letters 0", x, 0, 0, 0, 0, 0);
-            }
+        for (int n = 1; n <= runs.length; n++) {
+            dueSymbols(n + " letters 0", Answers.typed(new int[n]), runs[n - 1]);
         }
-        dueSymbols("32 letters 0", x, 1, 0, 0, 0, 0);
+        dueSymbols("30 letters 0", Answers.typed(new int[30]), 1, 1, 1, 1);
+        dueSymbols("31 letters 0", Answers.typed(new int[31]), 0, 0, 0, 0, 0);
+        dueSymbols("32 letters 0", Answers.typed(new int[32]), 1, 0, 0, 0, 0);
         // Runs at the end, in the middle and between: the ranks are
         // 1 1 0 0 0, then 2 1 0 0 2, then 1 0 1 0, then 1 1 0 1 1.
         dueSymbols("10000", Answers.typed(1, 0, 0, 0, 0), 2, 2, 0, 0);
@@ -217,26 +213,28 @@ public final class PromiseTest {
 
     private static void promise13RefusedCalls() {
         DUE.in("promise 13");
-        BlockCoder empty = new BlockCoder();
-        dueRefused("type(6)", empty, empty::type, 6, BAD);
-        dueRefused("repeat(1)", empty, empty::repeat, 1, BAD);
-        BlockCoder x = Answers.typed(3, 0, 5, 5, 1, 0, 0, 2, 4, 4, 1, 3, 5, 0, 2, 2, 1);
-        dueRefused("type(-1)", x, x::type, -1, BAD);
-        dueRefused("type(6)", x, x::type, 6, BAD);
-        dueRefused("repeat(0)", x, x::repeat, 0, BAD);
-        dueRefused("repeat(18)", x, x::repeat, 18, BAD);
-        dueRefused("repeat(17)", x, x::repeat, 17, FULL);
-        dueRefused("repeat(16)", x, x::repeat, 16, FULL);
-        DUE.answer("repeat(15) after the refused calls", x.repeat(15), 32);
-        dueRefused("type(1) in a full text", x, x::type, 1, FULL);
-        dueRefused("type(9) in a full text", x, x::type, 9, FULL);
-        dueRefused("repeat(1) in a full text", x, x::repeat, 1, FULL);
-        dueRefused("repeat(-1) in a full text", x, x::repeat, -1, BAD);
-        for (int i : NO_PLACES) {
-            dueRefused("column", x, x::column, i, NONE);
-            dueRefused("rank", x, x::rank, i, NONE);
-            dueRefused("symbol", x, x::symbol, i, NONE);
-            dueRefused("decoded", x, x::decoded, i, NONE);
+        int[] none = {};
+        dueRefused(none, "type", BlockCoder::type, 6, BAD);
+        dueRefused(none, "repeat", BlockCoder::repeat, 1, BAD);
+        int[] some = {3, 0, 5, 5, 1, 0, 0, 2, 4, 4, 1, 3, 5, 0, 2, 2, 1};
+        dueRefused(some, "type", BlockCoder::type, -1, BAD);
+        dueRefused(some, "type", BlockCoder::type, 6, BAD);
+        dueRefused(some, "repeat", BlockCoder::repeat, 0, BAD);
+        dueRefused(some, "repeat", BlockCoder::repeat, 18, BAD);
+        dueRefused(some, "repeat", BlockCoder::repeat, 17, FULL);
+        dueRefused(some, "repeat", BlockCoder::repeat, 16, FULL);
+        int[] full = Arrays.copyOf(some, 32);
+        dueRefused(full, "type", BlockCoder::type, 1, FULL);
+        dueRefused(full, "type", BlockCoder::type, 9, FULL);
+        dueRefused(full, "repeat", BlockCoder::repeat, 1, FULL);
+        dueRefused(full, "repeat", BlockCoder::repeat, -1, BAD);
+        for (int[] text : new int[][] {none, some, full}) {
+            for (int i : NO_PLACES) {
+                dueRefused(text, "column", BlockCoder::column, i, NONE);
+                dueRefused(text, "rank", BlockCoder::rank, i, NONE);
+                dueRefused(text, "symbol", BlockCoder::symbol, i, NONE);
+                dueRefused(text, "decoded", BlockCoder::decoded, i, NONE);
+            }
         }
     }
 
@@ -292,7 +290,7 @@ public final class PromiseTest {
         for (int i = 0; i < want.length; i++) {
             DUE.answer(call + " (" + i + ")", ask.applyAsInt(i), want[i]);
         }
-        for (int i = want.length; i <= 40; i++) {
+        for (int i = want.length; i <= 33; i++) {
             DUE.answer(call + " (" + i + ")", ask.applyAsInt(i), NONE);
         }
         for (int i : NO_PLACES) {
@@ -300,9 +298,12 @@ public final class PromiseTest {
         }
     }
 
-    private static void dueRefused(String call, BlockCoder x, IntUnaryOperator ask, int number, int want) {
-        List<Integer> before = Answers.of(x);
-        DUE.answer(call + " with " + number, ask.applyAsInt(number), want);
-        DUE.that(call + " with " + number + " changes nothing", before.equals(Answers.of(x)));
+    private static void dueRefused(int[] text, String call, ToIntBiFunction<BlockCoder, Integer> ask,
+            int number, int want) {
+        String told = call + "(" + number + ") on " + text.length + " letters";
+        BlockCoder x = Answers.typed(text);
+        DUE.answer(told, ask.applyAsInt(x, number), want);
+        DUE.that(told + " changes nothing", Answers.of(x).equals(Answers.of(Answers.typed(text))));
+        DUE.answer("clear() after " + told, x.clear(), text.length);
     }
 }
