@@ -1,6 +1,12 @@
+import java.util.function.IntUnaryOperator;
+
 /** Counts and prints the answers that are not the ones that are due. */
 final class Due {
     private static final int MOST_PRINTED = 50;
+    private static final int[] NO_PLACES = {
+        Integer.MIN_VALUE, Integer.MIN_VALUE + 1, -65536, -256, -33, -32, -31, -2, -1,
+        64, 256, 65536, Integer.MAX_VALUE - 1, Integer.MAX_VALUE
+    };
     private int wrong = 0;
     private String where = "";
 
@@ -18,6 +24,31 @@ final class Due {
         if (!holds) {
             tell(what + " does not hold");
         }
+    }
+
+    /** The list is there from place 0 to its end, and nothing before or behind it (48 calls). */
+    void list(String call, IntUnaryOperator ask, int... want) {
+        for (int i = 0; i <= 33; i++) {
+            answer(call + " (" + i + ")", ask.applyAsInt(i), i < want.length ? want[i] : BlockCoder.NONE);
+        }
+        for (int i : NO_PLACES) {
+            answer(call + " (" + i + ")", ask.applyAsInt(i), BlockCoder.NONE);
+        }
+    }
+
+    void symbols(String text, BlockCoder x, int... want) {
+        answer("symbols() of " + text, x.symbols(), want.length);
+        list("symbol of " + text, x::symbol, want);
+    }
+
+    void empty(BlockCoder x) {
+        list("column", x::column);
+        answer("mark()", x.mark(), BlockCoder.NONE);
+        list("rank", x::rank);
+        symbols("nothing", x);
+        answer("cost()", x.cost(), 0);
+        list("decoded", x::decoded);
+        answer("different()", x.different(), 0);
     }
 
     private void tell(String message) {
