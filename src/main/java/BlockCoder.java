@@ -20,6 +20,8 @@ public final class BlockCoder {
     // A tree whose 7 leaves are the symbols has 6 inner nodes, and no leaf lies deeper than 6.
     private static final int MOST_NODES = 2 * SYMBOL_KINDS - 1;
     private static final int DEEPEST = SYMBOL_KINDS - 1;
+    // More than any text needs: lists of three bits would do for 7 symbols, so that the least
+    // cost is not above three bits for each symbol.
     private static final int MOST_BITS = MOST_SYMBOLS * DEEPEST;
     private static final int NO_NODE = -1;
     private static final int NO_KIND = -1;

@@ -142,7 +142,7 @@ public final class ChangeBoundaryTest {
         DUE.in("promise 3: BAD above the number of letters");
         for (int n = 0; n <= 32; n++) {
             DUE.answer("repeat(" + (n + 1) + ") on " + n, Answers.mixed(n).repeat(n + 1), BAD);
-            for (int count : new int[] {33, 64, 256 + 1, 65536 + 1, GREATEST - 32, GREATEST - 31, GREATEST - 1, GREATEST}) {
+            for (int count : new int[] {33, 64, 257, 65537, GREATEST - 32, GREATEST - 31, GREATEST - 1, GREATEST}) {
                 DUE.answer("repeat(" + count + ") on " + n, Answers.mixed(n).repeat(count), BAD);
             }
         }

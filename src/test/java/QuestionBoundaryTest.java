@@ -1,28 +1,20 @@
 import java.util.Arrays;
-import java.util.stream.IntStream;
 
 /**
  * The boundary cases of the questions (promises 5 to 12) and of the terms they speak in: one
- * method for each sentence of the document that names one. Where a comment shows the way, the
- * answers are worked out by hand; the table of runs and the texts with special counts of symbols
- * come from a separate program that was written after the document's terms.
+ * method for each sentence of the document that names one. The answers are worked out by hand,
+ * but for the symbols of the long texts in Texts, which a program found; TermsTest holds those
+ * against the terms stage by stage.
  */
 public final class QuestionBoundaryTest {
     private static final int NONE = -3;
     private static final int[] LENGTHS = {0, 1, 2, 31, 32};
     private static final Due DUE = new Due();
 
-    /** No two ranks 0 of these 32 letters stand side by side: every rank is one symbol. */
-    private static final int[] WITH_32_SYMBOLS = {
-        3, 1, 3, 1, 0, 3, 5, 3, 0, 2, 1, 1, 3, 2, 0, 0, 2, 2, 1, 3, 2, 1, 0, 0, 2, 3, 1, 0, 3, 1, 3, 0
-    };
-
-    /** The seven symbols come 12, 7, 4, 3, 1, 1 and 1 times: only with six bits it costs 67. */
-    private static final int[] WITH_DEEPEST_CODE = {
-        1, 0, 2, 0, 0, 1, 0, 0, 2, 0, 2, 2, 2, 2, 2, 3, 1, 1, 1, 0, 2, 1, 1, 2, 0, 2, 0, 2, 1, 2, 5, 0
-    };
-
-    /** What a run of so many ranks 0 becomes, from 1 to 32. */
+    /**
+     * What a run of m ranks 0 becomes, from 1 to 32: 0 and what (m - 1) / 2 becomes if m is odd,
+     * else 1 and what (m - 2) / 2 becomes; nothing follows where that is 0.
+     */
     private static final int[][] RUNS = {
         {0}, {1},
         {0, 0}, {1, 0}, {0, 1}, {1, 1},
@@ -55,6 +47,7 @@ public final class QuestionBoundaryTest {
         costIsABitAtLeast();
         costIsTheLeast();
         costWithTheLongestLists();
+        costIsNeverAbove88();
         decodedIsNoneWhereThereIsNone();
         decodedTakesTheMark();
         decodedWithEveryShapeOfCode();
@@ -70,7 +63,7 @@ public final class QuestionBoundaryTest {
     private static void columnIsNoneWhereThereIsNone() {
         for (int n : LENGTHS) {
             DUE.in("promise 5: NONE if there is none, on " + n + " letters");
-            int[] want = n == 0 ? new int[0] : n == 1 ? new int[] {0} : joined(filled(n - 1, 1), 0);
+            int[] want = n == 0 ? new int[0] : n == 1 ? new int[] {0} : joined(Texts.filled(n - 1, 1), 0);
             DUE.list("column", zeroAndOnes(n)::column, want);
             DUE.list("column after a full text", afterAFullText(n)::column, want);
         }
@@ -79,7 +72,7 @@ public final class QuestionBoundaryTest {
     private static void rankIsNoneWhereThereIsNone() {
         for (int n : LENGTHS) {
             DUE.in("promise 7: NONE if there is none, on " + n + " letters");
-            int[] want = filled(n, 0);
+            int[] want = Texts.filled(n, 0);
             if (n >= 2) {
                 want[0] = 1;
                 want[n - 1] = 1;
@@ -97,14 +90,14 @@ public final class QuestionBoundaryTest {
             DUE.list("symbol after a full text", afterAFullText(LENGTHS[k])::symbol, wants[k]);
         }
         DUE.in("promise 9: NONE if there is none, with 32 symbols");
-        DUE.list("symbol", Answers.typed(WITH_32_SYMBOLS)::symbol, 3, 3, 4, 4, 0, 3, 3, 2, 4, 3, 0, 2, 2, 0, 3, 3,
+        DUE.list("symbol", Answers.typed(Texts.WITH_32_SYMBOLS)::symbol, 3, 3, 4, 4, 0, 3, 3, 2, 4, 3, 0, 2, 2, 0, 3, 3,
                 3, 0, 4, 3, 2, 0, 6, 5, 4, 2, 4, 0, 2, 0, 2, 5);
     }
 
     private static void decodedIsNoneWhereThereIsNone() {
         for (int n : LENGTHS) {
             DUE.in("promise 11: NONE if there is none, on " + n + " letters");
-            int[] want = filled(n, 1);
+            int[] want = Texts.filled(n, 1);
             if (n >= 1) {
                 want[0] = 0;
             }
@@ -148,11 +141,11 @@ public final class QuestionBoundaryTest {
         // 0 .. 0 1 0: rotation n - 1 is 0 .. 0 0 1 and the smaller one, but the first difference
         // from rotation 0 is at place n - 2, the latest there can be.
         for (int n : new int[] {3, 31, 32}) {
-            int[] letters = filled(n, 0);
+            int[] letters = Texts.filled(n, 0);
             letters[n - 2] = 1;
             BlockCoder x = Answers.typed(letters);
             DUE.answer("mark() of " + n + " letters", x.mark(), 1);
-            int[] want = filled(n, 0);
+            int[] want = Texts.filled(n, 0);
             want[0] = 1;
             DUE.list("column of " + n + " letters", x::column, want);
         }
@@ -163,12 +156,12 @@ public final class QuestionBoundaryTest {
     private static void equalRotationsSortByTheSmallerFirst() {
         DUE.in("promise 6: equal rotations by p");
         for (int n : new int[] {2, 4, 31, 32}) {
-            DUE.answer("mark() of " + n + " letters 2", Answers.typed(filled(n, 2)).mark(), 0);
+            DUE.answer("mark() of " + n + " letters 2", Answers.typed(Texts.filled(n, 2)).mark(), 0);
         }
         // Half of the rotations begin with 0; of those that begin with 1, rotation 0 is first.
         for (int n : new int[] {4, 6, 30, 32}) {
-            DUE.answer("mark() of 1 0 1 0 .. " + n, Answers.typed(alternating(n, 1, 0)).mark(), n / 2);
-            DUE.answer("mark() of 0 1 0 1 .. " + n, Answers.typed(alternating(n, 0, 1)).mark(), 0);
+            DUE.answer("mark() of 1 0 1 0 .. " + n, Answers.typed(Texts.alternating(n, 1, 0)).mark(), n / 2);
+            DUE.answer("mark() of 0 1 0 1 .. " + n, Answers.typed(Texts.alternating(n, 0, 1)).mark(), 0);
         }
         // Nearly equal: with one other letter the letters decide and not p.
         DUE.answer("mark() of 2221", Answers.typed(2, 2, 2, 1).mark(), 3);
@@ -205,11 +198,11 @@ public final class QuestionBoundaryTest {
             DUE.answer("mark() of " + letter, Answers.typed(letter).mark(), 0);
         }
         for (int n : new int[] {2, 3, 31, 32}) {
-            int[] letters = filled(n, 0);
+            int[] letters = Texts.filled(n, 0);
             letters[0] = 1;
             DUE.answer("mark() of 1 0 .. 0, " + n + " letters", Answers.typed(letters).mark(), n - 1);
             DUE.answer("mark() of 0 1 .. 1, " + n + " letters", zeroAndOnes(n).mark(), 0);
-            letters = filled(n, 5);
+            letters = Texts.filled(n, 5);
             letters[n - 1] = 0;
             DUE.answer("mark() of 5 .. 5 0, " + n + " letters", Answers.typed(letters).mark(), n - 1);
         }
@@ -267,11 +260,12 @@ public final class QuestionBoundaryTest {
         DUE.answer("symbols() of 0", x.symbols(), 1);
         x.clear();
         DUE.answer("symbols() after clear()", x.symbols(), 0);
-        DUE.answer("symbols(), the most", Answers.typed(WITH_32_SYMBOLS).symbols(), 32);
+        DUE.answer("symbols(), the most", Answers.typed(Texts.WITH_32_SYMBOLS).symbols(), 32);
         // A run takes one symbol more beyond 2, 6, 14 and 30 ranks.
         int[][] runs = {{1, 1}, {2, 1}, {3, 2}, {6, 2}, {7, 3}, {14, 3}, {15, 4}, {30, 4}, {31, 5}, {32, 5}};
         for (int[] pair : runs) {
-            DUE.answer("symbols() of " + pair[0] + " letters 0", Answers.typed(filled(pair[0], 0)).symbols(), pair[1]);
+            BlockCoder zeros = Answers.typed(Texts.filled(pair[0], 0));
+            DUE.answer("symbols() of " + pair[0] + " letters 0", zeros.symbols(), pair[1]);
         }
     }
 
@@ -293,14 +287,14 @@ public final class QuestionBoundaryTest {
     private static void runsOfEveryLength() {
         DUE.in("promise 9: runs of every length");
         for (int m = 1; m <= 32; m++) {
-            DUE.symbols(m + " letters 0", Answers.typed(filled(m, 0)), RUNS[m - 1]);
+            DUE.symbols(m + " letters 0", Answers.typed(Texts.filled(m, 0)), RUNS[m - 1]);
         }
         for (int m = 1; m <= 31; m++) {
             // The first rank is 5, the others are 0.
             int[] want = new int[1 + RUNS[m - 1].length];
             want[0] = 6;
             System.arraycopy(RUNS[m - 1], 0, want, 1, RUNS[m - 1].length);
-            DUE.symbols((m + 1) + " letters 5", Answers.typed(filled(m + 1, 5)), want);
+            DUE.symbols((m + 1) + " letters 5", Answers.typed(Texts.filled(m + 1, 5)), want);
         }
     }
 
@@ -317,7 +311,7 @@ public final class QuestionBoundaryTest {
         // Two runs of 3: the ranks are 1 0 0 0 1 0 0 0.
         DUE.symbols("01010101", Answers.typed(0, 1, 0, 1, 0, 1, 0, 1), 2, 0, 0, 2, 0, 0);
         // Two runs of 15: 32 letters, with ranks 1 and 15 times 0, twice.
-        DUE.symbols("0 1, 16 times", Answers.typed(alternating(32, 0, 1)), 2, 0, 0, 0, 0, 2, 0, 0, 0, 0);
+        DUE.symbols("0 1, 16 times", Answers.typed(Texts.alternating(32, 0, 1)), 2, 0, 0, 0, 0, 2, 0, 0, 0, 0);
         // A run in the middle, of 1 and of 2: the ranks are 1 0 1 and 1 0 0 1.
         DUE.symbols("011", Answers.typed(0, 1, 1), 2, 0, 2);
         DUE.symbols("0111", Answers.typed(0, 1, 1, 1), 2, 1, 2);
@@ -346,12 +340,12 @@ public final class QuestionBoundaryTest {
             DUE.answer("cost() of " + letter, Answers.typed(letter).cost(), 1);
         }
         // One symbol that occurs again and again: 0 0, 1 1, 0 0 0 0 0, 1 1 1 1.
-        DUE.answer("cost() of 3 letters 0", Answers.typed(filled(3, 0)).cost(), 2);
-        DUE.answer("cost() of 6 letters 0", Answers.typed(filled(6, 0)).cost(), 2);
-        DUE.answer("cost() of 30 letters 0", Answers.typed(filled(30, 0)).cost(), 4);
-        DUE.answer("cost() of 31 letters 0", Answers.typed(filled(31, 0)).cost(), 5);
+        DUE.answer("cost() of 3 letters 0", Answers.typed(Texts.filled(3, 0)).cost(), 2);
+        DUE.answer("cost() of 6 letters 0", Answers.typed(Texts.filled(6, 0)).cost(), 2);
+        DUE.answer("cost() of 30 letters 0", Answers.typed(Texts.filled(30, 0)).cost(), 4);
+        DUE.answer("cost() of 31 letters 0", Answers.typed(Texts.filled(31, 0)).cost(), 5);
         // Two symbols, 1 0 0 0 0 and 6 0: still a bit each.
-        DUE.answer("cost() of 32 letters 0", Answers.typed(filled(32, 0)).cost(), 5);
+        DUE.answer("cost() of 32 letters 0", Answers.typed(Texts.filled(32, 0)).cost(), 5);
         DUE.answer("cost() of 55", Answers.typed(5, 5).cost(), 2);
         // Three symbols, 5 2 0: one of them with a bit, two with two.
         DUE.answer("cost() of 040", Answers.typed(0, 4, 0).cost(), 5);
@@ -375,9 +369,29 @@ public final class QuestionBoundaryTest {
         DUE.answer("cost() of six symbols", Answers.typed(4, 4, 4, 2, 2, 5).cost(), 16);
         DUE.answer("cost() of seven symbols", Answers.typed(0, 0, 0, 0, 4, 0, 5, 3).cost(), 20);
         // 12 * 1 + 7 * 2 + 4 * 3 + 3 * 4 + 1 * 5 + 1 * 6 + 1 * 6.
-        DUE.answer("cost() with a list of six bits", Answers.typed(WITH_DEEPEST_CODE).cost(), 67);
+        DUE.answer("cost() with a list of six bits", Answers.typed(Texts.WITH_DEEPEST_CODE).cost(), 67);
         // 9 * 2 + 7 * 2 + 7 * 2 + 6 * 3 + 2 * 4 + 1 * 4.
-        DUE.answer("cost() of 32 symbols", Answers.typed(WITH_32_SYMBOLS).cost(), 76);
+        DUE.answer("cost() of 32 symbols", Answers.typed(Texts.WITH_32_SYMBOLS).cost(), 76);
+    }
+
+    private static void costIsNeverAbove88() {
+        DUE.in("promise 10: the dearest texts");
+        int[] times = {5, 1, 5, 5, 5, 5, 5};
+        for (int[] text : Texts.DEAREST) {
+            BlockCoder x = Answers.typed(text);
+            // 1 * 3 + 5 * 2 + 5 * 5 * 3; at Texts.DEAREST stands why there can be no more.
+            DUE.answer("cost() of " + Arrays.toString(text), x.cost(), 88);
+            DUE.answer("symbols()", x.symbols(), 31);
+            DUE.answer("different()", x.different(), 7);
+            int[] got = new int[7];
+            for (int i = 0; i < 31; i++) {
+                int kind = x.symbol(i);
+                if (kind >= 0 && kind <= 6) {
+                    got[kind]++;
+                }
+            }
+            DUE.that("symbols come " + Arrays.toString(got) + " times", Arrays.equals(got, times));
+        }
     }
 
     // ---- Promise 11: "decoded from the bits and the mark" ----
@@ -404,12 +418,16 @@ public final class QuestionBoundaryTest {
     private static void decodedWithEveryShapeOfCode() {
         DUE.in("promise 11: every shape of code");
         int[][] texts = {
-            filled(1, 0), filled(1, 5), filled(31, 0), filled(32, 0), filled(31, 5), filled(32, 5),
-            alternating(2, 1, 0), alternating(31, 1, 0), alternating(32, 1, 0), alternating(32, 0, 5),
+            Texts.filled(1, 0), Texts.filled(1, 5), Texts.filled(31, 0), Texts.filled(32, 0),
+            Texts.filled(31, 5), Texts.filled(32, 5), Texts.alternating(2, 1, 0),
+            Texts.alternating(31, 1, 0), Texts.alternating(32, 1, 0), Texts.alternating(32, 0, 5),
             {0, 4, 0}, {0, 1, 1, 4}, {0, 4, 1, 2, 4, 2}, {4, 4, 4, 2, 2, 5}, {0, 0, 0, 0, 4, 0, 5, 3},
-            WITH_DEEPEST_CODE, WITH_32_SYMBOLS
+            Texts.WITH_DEEPEST_CODE, Texts.WITH_32_SYMBOLS
         };
         for (int[] text : texts) {
+            DUE.list("decoded of " + Arrays.toString(text), Answers.typed(text)::decoded, text);
+        }
+        for (int[] text : Texts.DEAREST) {
             DUE.list("decoded of " + Arrays.toString(text), Answers.typed(text)::decoded, text);
         }
     }
@@ -425,12 +443,12 @@ public final class QuestionBoundaryTest {
         x.clear();
         DUE.answer("different() after clear()", x.different(), 0);
         // The symbols 0 0 0 0 0 and 1 0 0 0 0: 0 and 1 are two.
-        DUE.answer("different() of 31 letters 0", Answers.typed(filled(31, 0)).different(), 1);
-        DUE.answer("different() of 32 letters 0", Answers.typed(filled(32, 0)).different(), 2);
+        DUE.answer("different() of 31 letters 0", Answers.typed(Texts.filled(31, 0)).different(), 1);
+        DUE.answer("different() of 32 letters 0", Answers.typed(Texts.filled(32, 0)).different(), 2);
         // The symbols 5 4 2 0 6 3 and 4 2 1 5 6 3 0.
         DUE.answer("different() of 444225", Answers.typed(4, 4, 4, 2, 2, 5).different(), 6);
         DUE.answer("different() of 00004053", Answers.typed(0, 0, 0, 0, 4, 0, 5, 3).different(), 7);
-        DUE.answer("different() of seven symbols often", Answers.typed(WITH_DEEPEST_CODE).different(), 7);
+        DUE.answer("different() of seven symbols often", Answers.typed(Texts.WITH_DEEPEST_CODE).different(), 7);
     }
 
     private static BlockCoder zeroAndOnes(int n) {
@@ -449,14 +467,6 @@ public final class QuestionBoundaryTest {
             x.type(k == 0 ? 0 : 1);
         }
         return x;
-    }
-
-    private static int[] filled(int n, int letter) {
-        return IntStream.range(0, n).map(k -> letter).toArray();
-    }
-
-    private static int[] alternating(int n, int even, int odd) {
-        return IntStream.range(0, n).map(k -> k % 2 == 0 ? even : odd).toArray();
     }
 
     private static int[] joined(int[] list, int last) {
